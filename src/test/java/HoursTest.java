@@ -280,6 +280,13 @@ final class HoursTest {
         due.same("dawn: where", y.log(1, 1), (third >>> 33) % 7);
         due.same("dawn: where", y.log(0, 1), (fourth >>> 33) % 7);
         due.same("dawn: TRAIN 0 is there", train(y, 0, 0), (second >>> 33) % 7);
+        DarkLamps n = Due.net("nm7c1h5;tb1;ra6h24d1;ra6h25d1");
+        n.go(25);
+        long drawn = next(next(5));
+        n.years(1, 5);
+        due.same("a dawn of the next day", n.log(0, 1), (drawn >>> 33) % 7);
+        n.years(1, 5);
+        due.same("no dawn behind it", n.log(0, 1), 6);
         DarkLamps z = Due.net("nm7c1h5;tb1;rd9");
         z.go(2);
         due.same("no dawn by hand", z.log(0, 1), 1);

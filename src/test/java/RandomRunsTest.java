@@ -109,7 +109,18 @@ public final class RandomRunsTest {
             case "count": a = new Object[] {pick(-1, 14)}; break;
             default: a = new Object[0];
         }
+        if (a.length > 0 && random.nextInt(30) == 0) {
+            exaggerate(a, random.nextInt(a.length));
+        }
         same(name, a);
+    }
+
+    private static final int[] EXTREMES = {Integer.MIN_VALUE, Integer.MAX_VALUE, Integer.MIN_VALUE + 1, -1000000, 1 << 16, 240, -2};
+
+    private void exaggerate(Object[] a, int i) {
+        if (a[i] instanceof Integer) {
+            a[i] = EXTREMES[random.nextInt(EXTREMES.length)];
+        }
     }
 
     /** Half of the STRINGS LAID are so in the NET as it is, that NETS do not run out at once. */
@@ -170,7 +181,7 @@ public final class RandomRunsTest {
                 boolean hidden = unknown > 0 && random.nextInt(3) == 0;
                 unknown -= hidden ? 1 : 0;
                 had.add(from);
-                clauses.add("t" + from + "b" + (hidden ? 8 : pick(0, m - 1)) + (random.nextBoolean() ? "l" + pick(1, random.nextBoolean() ? 9 : 2) : ""));
+                clauses.add("t" + from + (!hidden && m > 1 && rarely() ? "" : "b" + (hidden ? 8 : pick(0, m - 1))) + (random.nextBoolean() ? "l" + pick(1, random.nextBoolean() ? 9 : 2) : ""));
             }
         }
         for (int i = pick(0, 6); i > 0; i--) {

@@ -4,6 +4,8 @@ final class TextsTest {
         newObject(due);
         tape(due);
         netFaults(due);
+        netBounds(due);
+        netUsual(due);
         netOrder(due);
         lawFaults(due);
         lawDepth(due);
@@ -82,6 +84,41 @@ final class TextsTest {
         netFault(due, x, "N", 0);
         netFault(due, x, "n\u00ff", 1);
         netFault(due, x, "n\t", 1);
+    }
+
+    /* Every letter at its least and its most, and one beyond. */
+    private static void netBounds(Due due) {
+        DarkLamps x = new DarkLamps();
+        String[] letters = {"nm1-8", "nc1-5", "nh0-23", "nf0-9", "ta0-7", "tc0-4", "tb0-8", "tl1-9", "ra0-7", "rc0-5",
+            "rh0-99", "rd0-9", "ga0-7"};
+        for (String bounds : letters) {
+            String letter = bounds.substring(0, 2);
+            int least = bounds.charAt(2) - '0';
+            int most = Integer.parseInt(bounds.substring(4));
+            String wide = letter.charAt(0) == 'n' ? "" : "nm8c5;";
+            String rest = letter.equals("nm") ? "c1" : "";
+            netFault(due, x, wide + letter + least + rest, -1);
+            netFault(due, x, wide + letter + most, -1);
+            String above = wide + letter + (most + 1);
+            netFault(due, x, above, above.length() - 1);
+            if (least == 1) {
+                netFault(due, x, wide + letter + "0", wide.length() + 2);
+            }
+        }
+    }
+
+    private static void netUsual(Due due) {
+        DarkLamps x = Due.net("t;r;g");
+        int[] counts = {4, 3, 1, 1};
+        for (int what = 0; what < counts.length; what++) {
+            due.same("as usual, count(" + what + ")", x.count(what), counts[what]);
+        }
+        due.same("as usual, b", x.dark(0, 0, 0), 1);
+        due.same("as usual, l", x.dark(0, 0, 1), 1);
+        due.same("as usual, GUARD", x.guards(0), 1);
+        due.same("as usual, MOUTH and COLOUR", x.train(0, 0) * 10 + x.train(0, 1), 0);
+        due.same("as usual, DARKS", x.train(0, 2), 3);
+        due.same("as usual, starts now, fades never", x.go(40) == 40 && x.train(0, 0) == 1 && x.train(0, 1) == 0, true);
     }
 
     private static void netOrder(Due due) {
@@ -175,6 +212,10 @@ final class TextsTest {
         lawFault(due, x, "y:!!!a=1&!!!!a=1|!!!!!!a=1?[[[1]]]", -1);
         lawFault(due, x, "y:[[[1]]]+[[[[[[2]]]]]]", -1);
         lawFault(due, x, "y:a=1?[[[[[[1]]]]]];y:[[[[[[[", 28);
+        lawFault(due, x, "y:a=[[[[[[1]]]]]]&((((((a=1))))))|!!!!!!a=1?1", -1);
+        lawFault(due, x, "y:a=[[[[[[[", 10);
+        lawFault(due, x, "y:a=1&(((((((", 12);
+        lawFault(due, x, "y:a=1|(((((((", 12);
     }
 
     private static void told(Due due) {
@@ -227,6 +268,11 @@ final class TextsTest {
         due.same("PRICE by none", x.dark(1, 0, 2), 3);
         due.same("law(2)", x.law(2), true);
         due.same("PRICE by LAW 2", x.dark(1, 0, 2), 23);
+        x.law(3);
+        due.same("PRICE by LAW 3", x.dark(1, 0, 2), 33);
+        x.law(0);
+        due.same("PRICE by LAW 0", x.dark(1, 0, 2), 3);
+        x.law(2);
         due.same("law(4)", x.law(4), false);
         due.same("law(-2)", x.law(-2), false);
         due.same("holds", x.count(6), 2);
