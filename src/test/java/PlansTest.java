@@ -136,6 +136,10 @@ final class PlansTest {
         due.same("no NETS", x.could(0), 0);
         due.same("nothing unknown", Due.net("n").tells(0), -1);
         due.same("nothing unknown", Due.net("n").nets(0), 0);
+        DarkLamps z = Due.net("nm3;tb2;ta2b8");
+        z.lay(0, 0, 2, 1);
+        due.same("through what is known", z.nets(0), 1);
+        due.same("through what is known", z.nets(-1), 1);
         DarkLamps y = Due.net("nm8c4;tb8;tc1b8;tc2b8;tc3b8");
         due.same("most NETS", y.nets(-1), 4096);
         due.same("most NETS", y.nets(4095), 7777);

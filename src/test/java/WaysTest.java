@@ -84,6 +84,10 @@ final class WaysTest {
         due.same("a longer one is none", y.soonest(0, 1, 5, 1), 2);
         DarkLamps z = Due.net("nm3c3;tc2b1l2;tb2;ta2b1");
         due.same("alike in HOURS", z.soonest(0, 1, 7, 1), 0);
+        DarkLamps v = Due.net("nm3c2;ta1b0;tb2;ta1c1b2l9;ga0");
+        due.same("through MOUTH 0", v.soonest(1, 2, 3, 0), 2);
+        due.same("through MOUTH 0, first", v.soonest(1, 2, 3, 1), 0);
+        due.same("through MOUTH 0, unseen", v.unseen(1, 2), 9);
         due.same("LAMPS do not fade", Due.net("nm4c2f1;tc1b1;ta1c1b2;ta2c1b3").soonest(0, 3, 2, 0), 3);
     }
 
