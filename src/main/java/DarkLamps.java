@@ -100,7 +100,7 @@ public final class DarkLamps {
     }
 
     public int sent(int mouth, int colour, int darks) {
-        if (!net.hasMouth(mouth) || !net.hasColour(colour) || darks < 0 || darks > 9 || now.isFull()) {
+        if (!net.hasMouth(mouth) || !net.hasLamp(colour) || darks < 0 || darks > 9 || now.isFull()) {
             return NONE;
         }
         acts.keep();

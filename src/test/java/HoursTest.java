@@ -8,6 +8,7 @@ final class HoursTest {
         meetings(due);
         fading(due);
         byHand(due);
+        sentUnlit(due);
         strings(due);
         guards(due);
         undone(due);
@@ -122,6 +123,7 @@ final class HoursTest {
         due.same("sent to no MOUTH", x.sent(-1, 0, 1), -1);
         due.same("sent by no COLOUR", x.sent(0, 2, 1), -1);
         due.same("sent by no COLOUR", x.sent(0, -1, 1), -1);
+        due.same("sent by no COLOUR", x.sent(0, 6, 1), -1);
         due.same("sent out of bounds", x.sent(0, 0, 10), -1);
         due.same("sent out of bounds", x.sent(0, 0, -1), -1);
         due.same("refused are no ACTS", x.count(13), 1);
@@ -146,6 +148,25 @@ final class HoursTest {
         }
         due.same("a ninth", x.sent(1, 1, 0), -1);
         due.same("TRAINS", x.count(2), 8);
+    }
+
+    private static void sentUnlit(Due due) {
+        DarkLamps x = Due.net("nm3c2f1;tb1l3;tc1b2l2");
+        due.same("sent UNLIT", x.sent(0, 5, 2), 0);
+        due.same("sent UNLIT is an ACT", x.count(13), 1);
+        due.same("sent UNLIT: its LAMP", train(x, 0, 1), 5);
+        due.same("sent UNLIT: due", x.go(1) == 1 && x.due(0) == 0, true);
+        x.go(2);
+        due.same("sent UNLIT goes to itself", train(x, 0, 0), 0);
+        due.same("sent UNLIT takes 1 HOUR", x.log(0, 2), 2);
+        due.same("sent UNLIT stays so", train(x, 0, 1), 5);
+        due.same("sent UNLIT: all DARKS gone", train(x, 0, 2), 0);
+        due.same("sent UNLIT gets a LAMP", x.lamp(0, 0), 5);
+        due.same("sent UNLIT, of no NET", new DarkLamps().sent(0, 5, 0), -1);
+        for (int left = 4; left >= 0; left--) {
+            due.same("sent UNLIT, undone", x.undo(), left);
+        }
+        due.same("sent UNLIT, gone", x.count(2), 0);
     }
 
     private static void strings(Due due) {

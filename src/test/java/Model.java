@@ -550,7 +550,7 @@ public final class Model {
     }
 
     public int sent(int mouth, int colour, int darks) {
-        if (!mouth(mouth) || !colour(colour) || darks < 0 || darks > 9 || w.rails.size() == 8) {
+        if (!mouth(mouth) || !lit(colour) || darks < 0 || darks > 9 || w.rails.size() == 8) {
             return NONE;
         }
         act();

@@ -84,7 +84,7 @@ public final class RandomRunsTest {
             case "train": a = new Object[] {pick(-1, 8), pick(0, 4)}; break;
             case "guards": case "loops": case "visits": a = new Object[] {mouth()}; break;
             case "law": a = new Object[] {pick(-2, 4)}; break;
-            case "sent": a = new Object[] {mouth(), colour(), rarely() ? pick(-1, 10) : pick(0, 9)}; break;
+            case "sent": a = new Object[] {mouth(), lit(), rarely() ? pick(-1, 10) : pick(0, 9)}; break;
             case "lamp": a = new Object[] {pick(-1, 8), lit()}; break;
             case "show": a = new Object[] {mouth(), colour(), mouth()}; break;
             case "guard": a = new Object[] {mouth(), random.nextInt(5) < 3}; break;
