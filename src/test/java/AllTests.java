@@ -8,6 +8,10 @@ public final class AllTests {
         HoursTest.run(due);
         WaysTest.run(due);
         PlansTest.run(due);
+        TextBoundsTest.run(due);
+        HourBoundsTest.run(due);
+        WayBoundsTest.run(due);
+        RefusedTest.run(due);
         RandomRunsTest.run(due);
         System.out.println(due.passed + " passed, " + due.failed + " failed");
         if (due.failed > 0) {
