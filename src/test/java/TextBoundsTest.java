@@ -24,6 +24,7 @@ final class TextBoundsTest {
         cuts(due);
         prices(due);
         told(due);
+        toldFewer(due);
         toldLaw(due);
     }
 
@@ -473,6 +474,25 @@ final class TextBoundsTest {
         for (int mouth = 0; mouth < 8; mouth++) {
             due.same("another NET: no GUARD", x.guards(mouth), 0);
         }
+    }
+
+    /** Of the TRAINS of another NET none comes OUT, clashes or is in a DARK any more. */
+    private static void toldFewer(Due due) {
+        DarkLamps x = Due.net("nm4c1;tb1l9;rd1;rd1;rd1");
+        due.same("three TRAINS: clashes", x.clashes() * 100 + x.timetable(1), 312);
+        x.go(1);
+        due.same("three TRAINS: in a DARK", x.astray(), 7);
+        Due.feed(x, "nm4c1;tb1l9;rd1");
+        due.same("another NET", x.text(0), 4);
+        due.same("one TRAIN: clashes", x.clashes() * 100 + x.timetable(1), 0);
+        due.same("one TRAIN: in no DARK", x.astray(), 0);
+        x.go(20);
+        due.same("one TRAIN: came OUT once", x.count(12) * 10 + x.visits(1), 11);
+        Due.feed(x, "nm4c1;tb1l9");
+        due.same("another NET", x.text(0), 4);
+        due.same("no TRAIN: clashes", x.clashes() * 100 + x.timetable(1), 0);
+        x.go(20);
+        due.same("no TRAIN: in no DARK, none came OUT", x.astray() + x.count(12), 0);
     }
 
     private static void toldLaw(Due due) {

@@ -348,6 +348,12 @@ final class WayBoundsTest {
         x.show(0, 0, 1);
         due.same("of those that are unknown", x.tells(0) * 100 + x.tells(1), 1);
         due.same("no such what", x.tells(-1) + x.tells(2), -2);
+        DarkLamps y = Due.net("nm8c2;tb8;tc1b8");
+        y.lay(0, 1, 1, 0);
+        due.same("the second is told, the first tells", y.tells(0) * 100 + y.tells(1), 1);
+        DarkLamps z = Due.net("nm8c2;tb8;tc1b8");
+        z.lay(0, 0, 1, 7);
+        due.same("the first is told, the second tells", z.tells(0) * 100 + z.tells(1), 101);
         due.same("no NET", new DarkLamps().tells(0) + new DarkLamps().tells(1), -2);
     }
 
