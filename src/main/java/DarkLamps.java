@@ -579,20 +579,21 @@ public final class DarkLamps {
             }
         }
 
+        // The NET itself has the first row of all.
         int mouths() {
-            return item(SELF, 0, 0);
+            return at(items, 0);
         }
 
         int colours() {
-            return item(SELF, 0, 1);
+            return at(items, 1);
         }
 
         int hour() {
-            return item(SELF, 0, 2);
+            return at(items, 2);
         }
 
         int fade() {
-            return item(SELF, 0, 3);
+            return at(items, 3);
         }
 
         boolean isTold() {

@@ -3,6 +3,8 @@ public final class AllTests {
     public static void main(String[] args) throws java.io.IOException {
         Due due = new Due();
         FaceTest.run(due);
+        SizesTest.run(due);
+        ReadmeTest.run(due);
         TextsTest.run(due);
         PricesTest.run(due);
         HoursTest.run(due);
